@@ -165,7 +165,7 @@ public final class FieldKeepsCamps {
             case 5:
                 return now.age[camp];
             case 6:
-                return rule.loss(now, camp);
+                return rule.losses(now)[camp];
             default:
                 return now.crossedBy(camp);
         }
@@ -255,9 +255,30 @@ public final class FieldKeepsCamps {
 
     public int story() {
         int bad = badInStory();
-        int answer = bad == NONE ? storyDone() : -1 - bad;
+        if (bad != NONE) {
+            text.size = 0;
+            return -1 - bad;
+        }
+        before.copy(now);
+        int done = 0;
+        int refused = 0;
+        int at = 0;
+        for (int i = 0; i < STORY_SIGNS && at < text.size && refused == 0; i++) {
+            if (actDone(at) < 0) {
+                refused = 1;
+            } else {
+                done++;
+            }
+            at += 1 + digitsBehind(text.get(at));
+        }
         text.size = 0;
-        return answer;
+        if (done > 0) {
+            past.push(before);
+        }
+        told.start();
+        told.add(refused);
+        told.add(now.year);
+        return done;
     }
 
     private int badInStory() {
@@ -296,28 +317,6 @@ public final class FieldKeepsCamps {
             default:
                 return 0;
         }
-    }
-
-    private int storyDone() {
-        before.copy(now);
-        int done = 0;
-        int refused = 0;
-        int at = 0;
-        for (int i = 0; i < STORY_SIGNS && at < text.size && refused == 0; i++) {
-            if (actDone(at) < 0) {
-                refused = 1;
-            } else {
-                done++;
-            }
-            at += 1 + digitsBehind(text.get(at));
-        }
-        if (done > 0) {
-            past.push(before);
-        }
-        told.start();
-        told.add(refused);
-        told.add(now.year);
-        return done;
     }
 
     private int actDone(int at) {
@@ -884,8 +883,9 @@ public final class FieldKeepsCamps {
         told.start();
         told.add(byOther);
         told.add(byRule);
+        int[] losses = other.losses(now);
         for (int camp = 0; camp < now.size; camp++) {
-            told.add(other.loss(now, camp));
+            told.add(losses[camp]);
         }
         return byOther - byRule;
     }
@@ -1209,15 +1209,16 @@ public final class FieldKeepsCamps {
             return bits;
         }
 
+        /** Of two camps that are there. */
         boolean cross(int a, int b) {
-            return isOn(a) && isOn(b)
+            return strength[a] > 0 && strength[b] > 0
                     && top[a] < top[b] + height[b] && top[b] < top[a] + height[a]
                     && left[a] < left[b] + width[b] && left[b] < left[a] + width[a];
         }
 
         int crossedBy(int camp) {
             int bits = 0;
-            for (int i = 0; i < size; i++) {
+            for (int i = 0; i < size && has(camp); i++) {
                 if (i != camp && cross(camp, i)) {
                     bits |= 1 << i;
                 }
@@ -1236,30 +1237,6 @@ public final class FieldKeepsCamps {
                 }
             }
             return hang;
-        }
-
-        /** What a letter of a rule means of a camp. */
-        int trait(int camp, int letter) {
-            switch (has(camp) ? letter : 0) {
-                case 's':
-                    return strength[camp];
-                case 'a':
-                    return age[camp];
-                case 'o':
-                    return Integer.bitCount(crossedBy(camp));
-                case 'h':
-                    return height[camp];
-                case 'w':
-                    return width[camp];
-                case 'c':
-                    return left[camp];
-                case 'r':
-                    return top[camp];
-                case 'n':
-                    return year % 7;
-                default:
-                    return 0;
-            }
         }
 
         // -- camps together
@@ -1580,7 +1557,8 @@ public final class FieldKeepsCamps {
         final int[] stack = new int[RULE_SIGNS];
         final int[] losses = new int[MOST_CAMPS];
         int size;
-        int high;
+        private int high;
+        private int others;
 
         void start() {
             size = 0;
@@ -1622,17 +1600,19 @@ public final class FieldKeepsCamps {
             addSign('+');
         }
 
+        /** LOSS of all camps now; 0 of such as are not ON, or not there. */
         int[] losses(Camps camps) {
             for (int i = 0; i < MOST_CAMPS; i++) {
-                losses[i] = loss(camps, i);
+                losses[i] = 0;
+                if (camps.isOn(i)) {
+                    others = Integer.bitCount(camps.crossedBy(i));
+                    losses[i] = loss(camps, i);
+                }
             }
             return losses;
         }
 
-        int loss(Camps camps, int camp) {
-            if (!camps.isOn(camp)) {
-                return 0;
-            }
+        private int loss(Camps camps, int camp) {
             high = 0;
             for (int i = 0; i < size; i++) {
                 int step = steps[i];
@@ -1645,20 +1625,42 @@ public final class FieldKeepsCamps {
                     int left = pop();
                     push(joined(-step, left, right));
                 } else {
-                    push(camps.trait(camp, -step));
+                    push(meaning(-step, camps, camp));
                 }
             }
             return digitOf(pop());
         }
 
-        void push(int value) {
+        /** What a letter means of a camp; others is how many it crosses. */
+        private int meaning(int letter, Camps camps, int camp) {
+            switch (letter) {
+                case 's':
+                    return camps.strength[camp];
+                case 'a':
+                    return camps.age[camp];
+                case 'o':
+                    return others;
+                case 'h':
+                    return camps.height[camp];
+                case 'w':
+                    return camps.width[camp];
+                case 'c':
+                    return camps.left[camp];
+                case 'r':
+                    return camps.top[camp];
+                default:
+                    return camps.year % 7;
+            }
+        }
+
+        private void push(int value) {
             if (high < stack.length) {
                 stack[high] = value;
                 high++;
             }
         }
 
-        int pop() {
+        private int pop() {
             if (high <= 0) {
                 return 0;
             }
