@@ -114,7 +114,7 @@ public final class FieldKeepsCamps {
         int at = 0;
         later.copy(now);
         for (int line = 0; line < MOST_CAMPS && at < end; line++) {
-            int bad = later.badInLine(text, at, end);
+            int bad = later.readLine(text, at, end);
             if (bad != NONE) {
                 return -1 - bad;
             }
@@ -1217,8 +1217,11 @@ public final class FieldKeepsCamps {
         }
 
         int crossedBy(int camp) {
+            if (!has(camp)) {
+                return 0;
+            }
             int bits = 0;
-            for (int i = 0; i < size && has(camp); i++) {
+            for (int i = 0; i < size; i++) {
                 if (i != camp && cross(camp, i)) {
                     bits |= 1 << i;
                 }
@@ -1472,7 +1475,7 @@ public final class FieldKeepsCamps {
         // -- lines
 
         /** One camp more by a line that begins at a place: NONE, or the place of a sign that can't stand there. */
-        int badInLine(Signs text, int at, int end) {
+        int readLine(Signs text, int at, int end) {
             if (size >= MOST_CAMPS) {
                 return at;
             }
@@ -1669,7 +1672,18 @@ public final class FieldKeepsCamps {
         }
 
         static boolean isOperator(int sign) {
-            return isComparison(sign) || sign == '+' || sign == '-' || sign == '*' || sign == '/';
+            switch (sign) {
+                case '+':
+                case '-':
+                case '*':
+                case '/':
+                case '<':
+                case '>':
+                case '=':
+                    return true;
+                default:
+                    return false;
+            }
         }
 
         static boolean isComparison(int sign) {

@@ -1,4 +1,6 @@
 import java.io.IOException;
+import java.io.PrintWriter;
+import java.io.StringWriter;
 import java.lang.reflect.Constructor;
 import java.lang.reflect.Field;
 import java.lang.reflect.Method;
@@ -7,10 +9,13 @@ import java.nio.file.Files;
 import java.nio.file.Path;
 import java.util.HashSet;
 import java.util.List;
+import java.util.Map;
 import java.util.Set;
+import java.util.TreeMap;
 import java.util.TreeSet;
 import java.util.regex.Matcher;
 import java.util.regex.Pattern;
+import java.util.spi.ToolProvider;
 
 /** The public face is the document's, no more and no less; the source keeps to what can be read off of LANGUAGE.md. */
 final class FaceTest {
@@ -21,6 +26,7 @@ final class FaceTest {
         Path shared = Path.of(args.length > 1 ? args[1] : "../shared");
         face(Files.readString(shared.resolve("DOC.md")));
         members();
+        depth();
         source(Files.readAllLines(root.resolve("src/main/java/FieldKeepsCamps.java")));
         DUE.finish();
     }
@@ -100,6 +106,52 @@ final class FaceTest {
 
     private static boolean fixed(Field f) {
         return !Modifier.isStatic(f.getModifiers()) || Modifier.isFinal(f.getModifiers());
+    }
+
+    /** Calls go at most eight deep, by the byte code; the reader of rules alone calls itself. */
+    private static void depth() {
+        Map<String, Set<String>> calls = new TreeMap<>();
+        readCalls("FieldKeepsCamps", calls);
+        for (Class<?> c : FieldKeepsCamps.class.getDeclaredClasses()) {
+            readCalls(c.getName(), calls);
+        }
+        DUE.is("methods were read", calls.size() > 100, true);
+        for (String method : calls.keySet()) {
+            int deep = deep(method, calls, 0);
+            DUE.is(method + " goes " + deep + " deep", deep <= 8, true);
+        }
+    }
+
+    private static void readCalls(String name, Map<String, Set<String>> calls) {
+        StringWriter out = new StringWriter();
+        ToolProvider javap = ToolProvider.findFirst("javap").orElseThrow();
+        String path = System.getProperty("java.class.path");
+        javap.run(new PrintWriter(out), new PrintWriter(out), "-c", "-p", "-classpath", path, name);
+        Set<String> now = new TreeSet<>();
+        Pattern method = Pattern.compile("^  \\S.*?([\\w$]+)\\(.*;$");
+        Pattern call = Pattern.compile("// Method (?:([\\w$]+)\\.)?\"?(\\w+|<init>)\"?:");
+        for (String line : out.toString().split("\n")) {
+            Matcher begins = method.matcher(line);
+            Matcher called = call.matcher(line);
+            if (begins.find()) {
+                String of = begins.group(1).equals(name) ? "<init>" : begins.group(1);
+                now = calls.computeIfAbsent(name + "." + of, key -> new TreeSet<>());
+            } else if (called.find()) {
+                now.add((called.group(1) == null ? name : called.group(1)) + "." + called.group(2));
+            }
+        }
+    }
+
+    private static int deep(String method, Map<String, Set<String>> calls, int above) {
+        int most = 0;
+        boolean readsRule = method.startsWith("FieldKeepsCamps$RuleReader.");
+        for (String called : calls.getOrDefault(method, Set.of())) {
+            boolean isPart = called.startsWith("FieldKeepsCamps$RuleReader.");
+            if (calls.containsKey(called) && !(readsRule && isPart) && above < 40) {
+                most = Math.max(most, deep(called, calls, above + 1));
+            }
+        }
+        return most + 1;
     }
 
     private static void source(List<String> lines) {

@@ -37,6 +37,8 @@ final class WhereTest {
         DUE.told("crosses() without 3", x, x.crosses(), 0, 0);
         FieldKeepsCamps y = Due.with("44", "001210;021210;102110");
         DUE.told("beside each other", y, y.crosses(), 0, 0);
+        FieldKeepsCamps z = Due.with("33", "221110;001110;002210;221110");
+        DUE.told("in the first cell and the last", z, z.crosses(), 2, 2, 0, 3);
     }
 
     private static void heaps() {
