@@ -62,6 +62,10 @@ final class Due {
         }
     }
 
+    int checks() {
+        return checks;
+    }
+
     void finish() {
         System.out.println(name + ": " + checks + " checks, " + wrong + " wrong");
         if (wrong > 0) {
