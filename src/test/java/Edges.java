@@ -8,6 +8,8 @@ import java.util.regex.Pattern;
 
 /** Boundary cases: each check stands under a sentence of the document, and a wrong answer is told with both. */
 final class Edges {
+    /** What the document says ahead of its terms, and its terms; promises have their own numbers. */
+    static final int BEGINNING = -1;
     static final int TERMS = 0;
     static final int PROMISES = 48;
     static final int LOW = Integer.MIN_VALUE;
@@ -22,8 +24,12 @@ final class Edges {
     void of(int promise, String sentence) {
         sentenceEnds();
         named.computeIfAbsent(promise, key -> new ArrayList<>()).add(sentence);
-        where = (promise == TERMS ? "terms" : "promise " + promise) + " '" + sentence + "': ";
+        where = nameOf(promise) + " '" + sentence + "': ";
         checksBefore = due.checks();
+    }
+
+    private static String nameOf(int promise) {
+        return promise == BEGINNING ? "beginning" : promise == TERMS ? "terms" : "promise " + promise;
     }
 
     private void sentenceEnds() {
@@ -88,23 +94,39 @@ final class Edges {
         return of;
     }
 
+    /** What undo() brings back: all of the camps, how many there are, YEAR, LOST. */
+    static long[] camps(FieldKeepsCamps x) {
+        long[] of = new long[3 + 6 * x.count(2)];
+        of[0] = x.count(2);
+        of[1] = x.count(4);
+        of[2] = x.count(5);
+        for (int i = 3; i < of.length; i++) {
+            of[i] = x.camp((i - 3) / 6, (i - 3) % 6);
+        }
+        return of;
+    }
+
     /** Each sentence that was named stands in the document, and each boundary that it tells is in one of them. */
     void finish(String doc) {
         sentenceEnds();
         where = "";
-        for (int promise = TERMS; promise <= PROMISES; promise++) {
+        for (int promise = BEGINNING; promise <= PROMISES; promise++) {
             String text = part(doc, promise);
             String left = text;
             for (String sentence : named.getOrDefault(promise, List.of())) {
-                due.is("promise " + promise + " says '" + sentence + "'", text.contains(sentence), true);
+                due.is(nameOf(promise) + " says '" + sentence + "'", text.contains(sentence), true);
                 left = left.replace(sentence, "\n");
+            }
+            if (promise == BEGINNING) {
+                // what it is, in words that the promises say again
+                continue;
             }
             Matcher boundary = Pattern.compile("\\d|\\b(Refused|NONE|NoSuch\\w*|none|nothing|without|most|least|"
                     + "fewest|first|above|below|more|less|last|latest|empty|early|equal|others?)\\b").matcher(left);
             while (boundary.find()) {
                 int from = Math.max(0, boundary.start() - 30);
                 int to = Math.min(left.length(), boundary.end() + 30);
-                due.is("promise " + promise + " has a boundary without a test: "
+                due.is(nameOf(promise) + " has a boundary without a test: "
                         + left.substring(from, to).replace('\n', '|'), true, false);
             }
         }
@@ -112,6 +134,9 @@ final class Edges {
     }
 
     private static String part(String doc, int promise) {
+        if (promise == BEGINNING) {
+            return doc.substring(0, doc.indexOf("## The public face"));
+        }
         String begins = promise == TERMS ? "## Terms\n" : "## Promise " + promise + ": ";
         String ends = promise == PROMISES ? "## Not promised" : "## Promise " + (promise + 1) + ": ";
         int from = doc.indexOf(begins) + begins.length();

@@ -52,6 +52,7 @@ final class EdgesOfChance {
                 + "the least move by which he does (how many there are to the left of those that he takes, how many he takes; "
                 + "nothing without).");
         FieldKeepsCamps x = new FieldKeepsCamps();
+        x.slept();
         e.told("fence(0)", x, x.fence(0), 0);
         e.told("fence(1)", x, x.fence(1), 1, 0, 1);
         e.told("fence(2)", x, x.fence(2), 1, 0, 2);
@@ -104,7 +105,8 @@ final class EdgesOfChance {
         FieldKeepsCamps x = Due.with("44", "001190;111190");
         e.told("lost in the ninth YEAR", x, Due.law(x, "(a=8)*9"), 0, 0, 0, 0, 0);
         e.told("lost in the tenth YEAR", x, Due.law(x, "(a=9)*9"), 2, 2, 0, 0, 0);
-        e.told("none as none", x, Due.law(x, ""), 0, 0, 0, 1, 1);
+        Due.law(x, "1+".repeat(19) + "12");
+        e.told("none as none, behind a long one", x, Due.law(x, ""), 0, 0, 0, 1, 1);
         Due.rule(x, "0");
         e.told("none, less than by THE RULE", x, Due.law(x, ""), -2, 0, 2, 1, 1);
         x.treads(0, 9);
@@ -229,6 +231,7 @@ final class EdgesOfChance {
             }
         }
         String call = "drawn(" + seed + ", " + n + ") with " + told;
+        x.slept();
         e.told(call, x, x.drawn(seed, n), y.count(3), y.count(2), lost);
         e.is(call + " is a question", x.count(4) + x.count(5), 0);
         return told.length() < 55 && y.count(2) == 8 ? 1 : 0;

@@ -1,3 +1,5 @@
+import java.util.Arrays;
+
 /** Boundary cases of promises 10 to 16: years, what is done, stories, what is undone. */
 final class EdgesOfDone {
     private static final String EIGHT = "001110;001110;001110;001110;001110;001110;001110;001110";
@@ -69,6 +71,12 @@ final class EdgesOfDone {
         }
         FieldKeepsCamps y = Due.with("45", "");
         e.none("STRENGTH 0", y, () -> y.pitch(0, 1, 1, 0, 0));
+        Due.camps(y, "001190");
+        y.years(3);
+        Due.field(y, "45");
+        e.is("where one was ahead of field()", y.pitch(0, 1, 1, 1, 0), 0);
+        e.is("AGE", y.camp(0, 5), 0);
+        y.undo();
         e.none("STRENGTH 10", y, () -> y.pitch(0, 1, 1, 10, 0));
         e.none("STRENGTH -1", y, () -> y.pitch(0, 1, 1, -1, 0));
         e.none("SLIP -1", y, () -> y.pitch(0, 1, 1, 1, -1));
@@ -77,6 +85,7 @@ final class EdgesOfDone {
 
     private void pitchRefused() {
         FieldKeepsCamps x = Due.with("45", "");
+        x.years(1);
         e.of(11, "-2: it would not be in THE FIELD;");
         e.answers("HEIGHT 2 from the last ROW", x, () -> x.pitch(15, 2, 1, 1, 0), -2);
         e.answers("HEIGHT 3 from the last ROW but one", x, () -> x.pitch(10, 3, 1, 1, 0), -2);
@@ -342,30 +351,18 @@ final class EdgesOfDone {
         }
         e.of(16, "is undone (all CAMPS, how many there are, YEAR, LOST are as ahead of it): how many are left that can be.");
         FieldKeepsCamps x = Due.with("44", "001111;331150");
-        long[] first = Edges.all(x);
-        x.years(1);
-        x.pitch(8, 1, 1, 4, 0);
-        x.sings(0, 3);
-        x.treads(1, 2);
-        x.moves(2, 1);
-        Due.story(x, "n1p101110");
-        e.is("undo() of a story", x.undo(), 5);
-        e.is("CAMPS", x.count(2), 3);
-        e.is("YEAR", x.count(4), 1);
-        e.is("undo() of moves()", x.undo(), 4);
-        e.is("CELL", x.camp(2, 0), 8);
-        e.is("undo() of treads()", x.undo(), 3);
-        e.is("STRENGTH", x.camp(1, 3), 4);
-        e.is("undo() of sings()", x.undo(), 2);
-        e.is("STRENGTH", x.camp(0, 3), 0);
-        e.is("undo() of pitch()", x.undo(), 1);
-        e.is("CAMPS", x.count(2), 2);
-        e.is("LOST", x.count(5), 1);
-        e.is("undo() of years()", x.undo(), 0);
-        long[] then = Edges.all(x);
-        // the ROW alone is another one
-        for (int i = 0; i < 11 + 64; i++) {
-            e.is("number " + i + " of the state", i == 10 ? 0 : then[i], i == 10 ? 0 : first[i]);
+        Due.Call[] acts = {() -> x.years(1), () -> x.pitch(8, 1, 1, 4, 0), () -> x.sings(0, 3), () -> x.treads(1, 2),
+            () -> x.moves(2, 1), () -> Due.story(x, "n1p101110"), () -> x.moves(0, 2), () -> x.treads(2, 1),
+            () -> x.sings(1, 1), () -> x.years(3), () -> Due.story(x, "s13t11t11"), () -> x.years(0)};
+        long[][] ahead = new long[acts.length][];
+        for (int i = 0; i < acts.length; i++) {
+            ahead[i] = Edges.camps(x);
+            e.is("act " + i + " is done", acts[i].answer() >= 0, true);
+            e.is("what can be undone", x.count(9), i + 1);
+        }
+        for (int i = acts.length - 1; i >= 0; i--) {
+            e.is("undo() of act " + i, x.undo(), i);
+            e.is("all is as ahead of act " + i, Arrays.equals(Edges.camps(x), ahead[i]), true);
         }
         e.of(16, "Refused: none.");
         e.none("undo() of none", x, x::undo);

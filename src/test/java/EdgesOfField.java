@@ -150,6 +150,11 @@ final class EdgesOfField {
         e.is("CAMPS", x.count(2), 8);
         e.is("the last one", x.camp(7, 0), 15);
         e.answers("none, when there is no room", x, () -> Due.camps(x, ""), 0);
+        Due.rule(x, "0");
+        x.years(3);
+        Due.field(x, "44");
+        e.is("one LINE, where one was ahead of field()", Due.camps(x, "001110"), 1);
+        e.is("AGE", x.camp(0, 5), 0);
         FieldKeepsCamps y = new FieldKeepsCamps();
         e.is("eight LINES", Due.camps(y, EIGHT), 8);
         e.is("they may CROSS", y.camp(0, 7), 254);
@@ -247,6 +252,10 @@ final class EdgesOfField {
         e.is("a rule of one sign", Due.rule(x, "4"), 0);
         e.is("LOSS by it", x.camp(0, 6), 4);
         e.is("none", Due.rule(x, ""), 0);
+        e.is("LOSS by none", x.camp(0, 6), 1);
+        Due.rule(x, "1+".repeat(19) + "12");
+        e.is("LOSS by a long one", x.camp(0, 6), 9);
+        e.is("none behind a long one", Due.rule(x, ""), 0);
         e.is("LOSS by none", x.camp(0, 6), 1);
         e.of(6, "-1 - p: the sign at p can't stand there (its end, if it ends too early;");
         Due.rule(x, "7");

@@ -138,7 +138,7 @@ final class EdgesOfKept {
     }
 
     private void manyCalls() {
-        e.of(48, "Number i of the ROW.");
+        e.of(Edges.BEGINNING, "An object is used for at most 512 calls after it has been made;");
         FieldKeepsCamps x = new FieldKeepsCamps();
         for (int i = 1; i <= 508; i++) {
             x.years(60);

@@ -114,6 +114,7 @@ final class EdgesOfRoom {
             }
         }
         FieldKeepsCamps x = Due.with("33", "003310");
+        x.slept();
         e.told("none", x, x.largest(), 0);
         x.treads(0, 1);
         e.told("all, as none is ON", x, x.largest(), 9, 0, 3, 3);
@@ -149,6 +150,11 @@ final class EdgesOfRoom {
         e.told("of as few the least", y, y.makes(1, 1), 1, 1);
         e.told("of as few the least, of two", y, y.makes(2, 1), 2, 3);
         e.told("all three", y, y.makes(3, 1), 3, 7);
+        FieldKeepsCamps w = Due.with("33", "001310;101310;201310");
+        e.told("of as few the least, the first", w, w.makes(1, 1), 1, 1);
+        e.told("of as few the least, the first two", w, w.makes(2, 1), 2, 3);
+        FieldKeepsCamps v = Due.with("33", "101310;001310;201310");
+        e.told("of as few the least, the one between", v, v.makes(1, 1), 1, 1);
         FieldKeepsCamps z = Due.with("33", "");
         e.told("no CAMPS", z, z.makes(3, 3), 0, 0);
         e.of(27, "-2: it is greater than THE FIELD;");

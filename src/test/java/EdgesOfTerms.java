@@ -245,9 +245,11 @@ final class EdgesOfTerms {
         e.of(Edges.TERMS, "EXPRESSION: < > = bind least (two; 1 or 0; not one behind the other)");
         FieldKeepsCamps x = Due.with("44", "001150");
         String[] rules = {"s<4", "s<5", "s<6", "s>4", "s>5", "s>6", "s=4", "s=5", "s=6", "2<1+1", "3>1+1", "4=2+2",
-            "2*2=4", "1+1<3", "(1<2)<3", "1<(2<3)", "(2<1)=(1<0)", "1<2+(3<4)"};
+            "2*2=4", "1+1<3", "(1<2)<3", "1<(2<3)", "(2<1)=(1<0)", "1<2+(3<4)", "3+(s<5)", "3+(s>5)", "3+(s=4)",
+            "3+(s<6)", "3+(s>4)", "3+(s=5)"};
         int[] due = {0, 0, 1, 1, 0, 0, 0, 1, 0, 0, 1, 1,
-            1, 1, 1, 0, 1, 1};
+            1, 1, 1, 0, 1, 1, 3, 3, 3,
+            4, 4, 4};
         for (int i = 0; i < rules.length; i++) {
             e.is("LOSS by " + rules[i], loss(x, rules[i]), due[i]);
         }
@@ -524,6 +526,17 @@ final class EdgesOfTerms {
         e.is("signs", x.count(11), 0);
         e.answers("law()", x, () -> Due.law(x, "x"), -10000);
         e.is("signs", x.count(11), 0);
+        Due.story(x, "n1");
+        e.is("signs behind a story", x.count(11), 0);
+        Due.law(x, "1");
+        e.is("signs behind law()", x.count(11), 0);
+        Due.rule(x, "1");
+        e.is("signs behind rule()", x.count(11), 0);
+        FieldKeepsCamps y = new FieldKeepsCamps();
+        Due.field(y, "33");
+        e.is("signs behind field()", y.count(11), 0);
+        Due.camps(y, "001110");
+        e.is("signs behind camps()", y.count(11), 0);
         Due.tell(x, "1234567");
         e.none("years()", x, () -> x.years(61));
         e.none("pitch()", x, () -> x.pitch(16, 1, 1, 1, 0));
@@ -541,6 +554,7 @@ final class EdgesOfTerms {
         e.none("sign()", x, () -> x.sign(0));
         e.is("signs stay", x.count(11), 80);
         x.end(0);
+        x.undo();
         x.undo();
         e.none("undo()", x, x::undo);
     }

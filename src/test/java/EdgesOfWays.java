@@ -32,6 +32,9 @@ final class EdgesOfWays {
         FieldKeepsCamps z = Due.with("66", "001110;051110;501110;551110");
         e.is("four corners, from one to itself", z.meets(0, 0, 15), 20);
         e.is("numbers", z.count(10), 21);
+        FieldKeepsCamps v = Due.with("66", "001110;051110;501110;551110;221110;231110;321110;331110");
+        e.is("four corners, and four in the middle, from one to itself", v.meets(0, 0, 255), 26);
+        e.is("numbers", v.count(10), 27);
         FieldKeepsCamps w = Due.with("66", "");
         e.told("through the whole FIELD", w, w.meets(35, 0, 0), 10, 35, 29, 23, 17, 11, 5, 4, 3, 2, 1, 0);
     }
