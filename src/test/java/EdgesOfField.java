@@ -253,10 +253,11 @@ final class EdgesOfField {
         e.is("LOSS by it", x.camp(0, 6), 4);
         e.is("none", Due.rule(x, ""), 0);
         e.is("LOSS by none", x.camp(0, 6), 1);
-        Due.rule(x, "1+".repeat(19) + "12");
-        e.is("LOSS by a long one", x.camp(0, 6), 9);
-        e.is("none behind a long one", Due.rule(x, ""), 0);
-        e.is("LOSS by none", x.camp(0, 6), 1);
+        FieldKeepsCamps y = Due.with("44", "001190;001190;001190");
+        Due.rule(y, "1+".repeat(19) + "12");
+        e.is("LOSS by a long one", y.camp(0, 6), 9);
+        e.is("none behind a long one", Due.rule(y, ""), 0);
+        e.is("LOSS by none of one that CROSSES two", y.camp(0, 6), 2);
         e.of(6, "-1 - p: the sign at p can't stand there (its end, if it ends too early;");
         Due.rule(x, "7");
         String[] bad = {"z", "\u0000", " ", "1z", "1+z", "1+", "1<", "(", "(1", "(1+", "-", "1*", "1)", "(1))", "1<2<3",

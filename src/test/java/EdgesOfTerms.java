@@ -229,6 +229,8 @@ final class EdgesOfTerms {
         String forty = "1+".repeat(19) + "12";
         e.is("40 signs", Due.rule(x, forty), 0);
         e.is("LOSS by it", x.camp(0, 6), 9);
+        e.is("40 signs, no two of which are one thing", Due.rule(x, "-1+" + "0+".repeat(18) + "4"), 0);
+        e.is("LOSS by it", x.camp(0, 6), 3);
         Due.rule(x, "3");
         e.answers("41 signs", x, () -> Due.rule(x, forty + "3"), -41);
         e.answers("80 signs", x, () -> Due.rule(x, "1+".repeat(40)), -41);

@@ -86,6 +86,10 @@ final class EdgesOfWays {
         e.told("to the wall", z, z.quiet(0, 7), 3, 0, 3, 6, 7);
         z.treads(0, 1);
         e.told("no wall any more", z, z.quiet(0, 2), 2, 0, 1, 2);
+        z.sings(0, 1);
+        e.answers("the wall is back, behind a question that went through it", z, () -> z.quiet(0, 2), -2);
+        e.answers("the other way", z, () -> z.quiet(8, 6), -2);
+        z.treads(0, 1);
         e.of(29, "NONE: others.");
         for (int cell : new int[] {-1, 9, 36, Edges.HIGH, Edges.LOW}) {
             e.none("from " + cell, z, () -> z.quiet(cell, 0));
@@ -159,6 +163,9 @@ final class EdgesOfWays {
         e.told("all six ROWS", x, x.seats(), 6, 63, 0);
         x.treads(5, 1);
         e.told("all but the last", x, x.seats(), 5, 31, 0);
+        x.sings(5, 1);
+        x.treads(0, 1);
+        e.told("all but the first", x, x.seats(), 5, 62, 0);
         x.sheet(3, 0, 0, 0);
         e.told("none is ON", x, x.seats(), 0, 0, 0);
         FieldKeepsCamps y = Due.with("44", "103110");
